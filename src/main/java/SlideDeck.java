@@ -901,7 +901,7 @@ public final class SlideDeck {
         static final int WORDS = 7;
         static final int VALUES = 8;
         static final int MOST_NESTED = 3;
-        static final int SAVED = 5 * ROOM + ROOM * VALUES + 2;
+        private static final int SAVED_OF_ONE = 5 + VALUES;
         static final int HIDDEN = 1;
         static final int BOLD = 2;
         private static final int LOCKED = 4;
@@ -1202,32 +1202,47 @@ public final class SlideDeck {
             groups[slot] = -1;
         }
 
+        int savedLength() {
+            return 2 + size * SAVED_OF_ONE;
+        }
+
+        /** Only the shapes that there are are saved, in the order in which they stand in the row. */
         void save(int[] into, int from) {
-            if (from < 0 || into.length - from < SAVED) {
+            if (from < 0 || into.length - from < savedLength()) {
                 return;
             }
-            System.arraycopy(numbers, 0, into, from, ROOM);
-            System.arraycopy(kinds, 0, into, from + ROOM, ROOM);
-            System.arraycopy(homes, 0, into, from + 2 * ROOM, ROOM);
-            System.arraycopy(groups, 0, into, from + 3 * ROOM, ROOM);
-            System.arraycopy(row, 0, into, from + 4 * ROOM, ROOM);
-            System.arraycopy(values, 0, into, from + 5 * ROOM, values.length);
-            into[from + SAVED - 2] = size;
-            into[from + SAVED - 1] = next;
+            into[from] = size;
+            into[from + 1] = next;
+            for (int position = 0; position < size; position++) {
+                int slot = row[position];
+                int at = from + 2 + position * SAVED_OF_ONE;
+                into[at] = slot;
+                into[at + 1] = numbers[slot];
+                into[at + 2] = kinds[slot];
+                into[at + 3] = homes[slot];
+                into[at + 4] = groups[slot];
+                System.arraycopy(values, slot * VALUES, into, at + 5, VALUES);
+            }
         }
 
         void load(int[] saved, int from) {
-            if (from < 0 || saved.length - from < SAVED) {
+            if (from < 0 || saved.length - from < 2) {
                 return;
             }
-            System.arraycopy(saved, from, numbers, 0, ROOM);
-            System.arraycopy(saved, from + ROOM, kinds, 0, ROOM);
-            System.arraycopy(saved, from + 2 * ROOM, homes, 0, ROOM);
-            System.arraycopy(saved, from + 3 * ROOM, groups, 0, ROOM);
-            System.arraycopy(saved, from + 4 * ROOM, row, 0, ROOM);
-            System.arraycopy(saved, from + 5 * ROOM, values, 0, values.length);
-            size = saved[from + SAVED - 2];
-            next = saved[from + SAVED - 1];
+            Arrays.fill(numbers, -1);
+            Arrays.fill(groups, -1);
+            size = Math.min(saved[from], (saved.length - from - 2) / SAVED_OF_ONE);
+            next = saved[from + 1];
+            for (int position = 0; position < size; position++) {
+                int at = from + 2 + position * SAVED_OF_ONE;
+                int slot = saved[at];
+                row[position] = slot;
+                numbers[slot] = saved[at + 1];
+                kinds[slot] = saved[at + 2];
+                homes[slot] = saved[at + 3];
+                groups[slot] = saved[at + 4];
+                System.arraycopy(saved, at + 5, values, slot * VALUES, VALUES);
+            }
         }
     }
 
@@ -1633,17 +1648,18 @@ public final class SlideDeck {
         }
 
         int[] saved() {
-            int[] row = new int[Sheets.SAVED + Shapes.SAVED + overrides.savedLength()];
+            int behindShapes = Sheets.SAVED + shapes.savedLength();
+            int[] row = new int[behindShapes + overrides.savedLength()];
             sheets.save(row, 0);
             shapes.save(row, Sheets.SAVED);
-            overrides.save(row, Sheets.SAVED + Shapes.SAVED);
+            overrides.save(row, behindShapes);
             return row;
         }
 
         void load(int[] row) {
             sheets.load(row, 0);
             shapes.load(row, Sheets.SAVED);
-            overrides.load(row, Sheets.SAVED + Shapes.SAVED);
+            overrides.load(row, Sheets.SAVED + shapes.savedLength());
         }
     }
 

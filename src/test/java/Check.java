@@ -14,6 +14,13 @@ final class Check {
         }
     }
 
+    void due(String what, String answer, String due) {
+        if (!answer.equals(due)) {
+            wrong++;
+            System.out.println(what + ": " + answer + ", but due is " + due);
+        }
+    }
+
     void due(String what, double answer, double due) {
         if (answer != due) {
             wrong++;
