@@ -436,11 +436,12 @@ final class GroupsTest {
     }
 
     private static void noMoreStates() {
-        SlideDeck deck = three();
-        int group = Decks.group(deck, 2);
-        Decks.select(deck, 0, 1);
-        deck.add(0, 0, 0, 0, 1, 1);
-        Decks.select(deck, 4);
+        SlideDeck deck = new SlideDeck();
+        for (int i = 0; i < 4; i++) {
+            deck.add(0, 0, i, i, 1, 1);
+        }
+        int group = Decks.group(deck, 3);
+        Decks.select(deck, 0, 1, 2);
         Decks.fillStates(deck);
         check.badState("group", deck, deck::group);
         check.badState("ungroup", deck, () -> deck.ungroup(group));
@@ -450,6 +451,7 @@ final class GroupsTest {
         check.badArgument("align's argument first", deck, () -> deck.align(9));
         check.noIndex("ungroup's index first", deck, () -> deck.ungroup(0));
         check.noIndex("arrange's index first", deck, () -> deck.arrange(0, 7));
-        check.due("select is no edit", deck.select(4, false), 2);
+        check.due("the order is as it was", Decks.painted(deck, 0), "0 1 2 3");
+        check.due("select is no edit", deck.select(1, false), 2);
     }
 }

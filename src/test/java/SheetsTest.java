@@ -108,6 +108,11 @@ final class SheetsTest {
         deck.set(slide, a, 0, 100);
         check.due("the copy is one of its own", deck.value(4, 6, 0), 1);
         check.due("9 shapes", deck.count(2), 9);
+        int states = deck.states();
+        deck.duplicate(last);
+        check.due("an edit", deck.states(), states + 1);
+        deck.undo();
+        check.due("taken back", deck.count(1), 3);
     }
 
     private static void duplicateRefused() {
