@@ -767,6 +767,9 @@ public final class SlideDeck {
         }
 
         private void fill(int slot, int baseSlot) {
+            if (slot < 0 || slot >= ALL) {
+                return;
+            }
             numbers[slot] = next;
             bases[slot] = baseSlot;
             next++;
@@ -1077,12 +1080,9 @@ public final class SlideDeck {
             return above;
         }
 
-        private boolean standsWith(int slot, int other) {
-            return groupOf(slot) == groupOf(other) && homeOf(slot) == homeOf(other);
-        }
-
-        boolean isSameOrder(int slot, int other) {
-            return standsWith(slot, other);
+        /** Whether both stand in the same order: on the same home, or in the same group. */
+        boolean standsWith(int slot, int other) {
+            return isSlot(slot) && isSlot(other) && groups[slot] == groups[other] && homes[slot] == homes[other];
         }
 
         int placeOf(int slot) {
@@ -1214,15 +1214,20 @@ public final class SlideDeck {
             into[from] = size;
             into[from + 1] = next;
             for (int position = 0; position < size; position++) {
-                int slot = row[position];
-                int at = from + 2 + position * SAVED_OF_ONE;
-                into[at] = slot;
-                into[at + 1] = numbers[slot];
-                into[at + 2] = kinds[slot];
-                into[at + 3] = homes[slot];
-                into[at + 4] = groups[slot];
-                System.arraycopy(values, slot * VALUES, into, at + 5, VALUES);
+                saveOne(row[position], into, from + 2 + position * SAVED_OF_ONE);
             }
+        }
+
+        private void saveOne(int slot, int[] into, int at) {
+            if (!isSlot(slot) || at < 0 || into.length - at < SAVED_OF_ONE) {
+                return;
+            }
+            into[at] = slot;
+            into[at + 1] = numbers[slot];
+            into[at + 2] = kinds[slot];
+            into[at + 3] = homes[slot];
+            into[at + 4] = groups[slot];
+            System.arraycopy(values, slot * VALUES, into, at + 5, VALUES);
         }
 
         void load(int[] saved, int from) {
@@ -1231,18 +1236,25 @@ public final class SlideDeck {
             }
             Arrays.fill(numbers, -1);
             Arrays.fill(groups, -1);
-            size = Math.min(saved[from], (saved.length - from - 2) / SAVED_OF_ONE);
+            int most = Math.min(ROOM, (saved.length - from - 2) / SAVED_OF_ONE);
+            size = Math.max(0, Math.min(saved[from], most));
             next = saved[from + 1];
             for (int position = 0; position < size; position++) {
                 int at = from + 2 + position * SAVED_OF_ONE;
-                int slot = saved[at];
-                row[position] = slot;
-                numbers[slot] = saved[at + 1];
-                kinds[slot] = saved[at + 2];
-                homes[slot] = saved[at + 3];
-                groups[slot] = saved[at + 4];
-                System.arraycopy(saved, at + 5, values, slot * VALUES, VALUES);
+                row[position] = saved[at];
+                loadOne(saved[at], saved, at);
             }
+        }
+
+        private void loadOne(int slot, int[] saved, int at) {
+            if (!isSlot(slot) || at < 0 || saved.length - at < SAVED_OF_ONE) {
+                return;
+            }
+            numbers[slot] = saved[at + 1];
+            kinds[slot] = saved[at + 2];
+            homes[slot] = saved[at + 3];
+            groups[slot] = saved[at + 4];
+            System.arraycopy(saved, at + 5, values, slot * VALUES, VALUES);
         }
     }
 
@@ -1289,10 +1301,13 @@ public final class SlideDeck {
         }
 
         void take(int sheet, int slot, int what) {
-            int index = indexOf(sheet, slot, what);
-            if (index >= 0 && given[index] != ABSENT) {
+            takeAt(indexOf(sheet, slot, what));
+        }
+
+        private void takeAt(int index) {
+            if (index >= 0 && index < given.length && given[index] != ABSENT) {
                 given[index] = ABSENT;
-                sizes[sheet]--;
+                sizes[index / OF_SHEET]--;
             }
         }
 
@@ -1305,7 +1320,7 @@ public final class SlideDeck {
         void takeShape(int slot) {
             for (int sheet = 0; sheet < Sheets.ALL; sheet++) {
                 for (int what = 0; what < Shapes.VALUES; what++) {
-                    take(sheet, slot, what);
+                    takeAt(indexOf(sheet, slot, what));
                 }
             }
         }
@@ -1590,13 +1605,16 @@ public final class SlideDeck {
             int size = shapes.size();
             for (int position = 0; position < size; position++) {
                 int slot = shapes.slotAt(position);
-                if (shapes.homeOf(slot) == slide && slot >= 0) {
+                if (shapes.homeOf(slot) == slide && slot >= 0 && slot < copies.length) {
                     copies[slot] = shapes.createLike(slot, copy);
-                    int group = shapes.groupOf(slot);
-                    shapes.join(copies[slot], group < 0 ? -1 : copies[group]);
+                    shapes.join(copies[slot], copyOf(shapes.groupOf(slot)));
                 }
             }
             return copy;
+        }
+
+        private int copyOf(int group) {
+            return group < 0 || group >= copies.length ? -1 : copies[group];
         }
 
         void dropSlide(int slide) {
@@ -1657,6 +1675,9 @@ public final class SlideDeck {
         }
 
         void load(int[] row) {
+            if (row == null) {
+                return;
+            }
             sheets.load(row, 0);
             shapes.load(row, Sheets.SAVED);
             overrides.load(row, Sheets.SAVED + shapes.savedLength());
@@ -1725,7 +1746,7 @@ public final class SlideDeck {
         boolean isOneOrder() {
             gather();
             for (int i = 1; i < size; i++) {
-                if (!shapes.isSameOrder(row[i], row[0])) {
+                if (!shapes.standsWith(row[i], row[0])) {
                     return false;
                 }
             }

@@ -80,6 +80,9 @@ final class GrammarTest {
         wrong("leta=1;", 0);
         wrong("let a=1;frontback;", 8);
         wrong("Let a=1;", 0);
+        wrong("  lets a=1;", 2);
+        wrong(" ".repeat(599) + "?", 599);
+        wrong("let a=1;" + " ".repeat(591) + ";", 599);
     }
 
     private static void wrongTokens() {
@@ -168,6 +171,9 @@ final class GrammarTest {
         fine("let a=" + "(1)+".repeat(20) + "-1--1*-1;");
         fine("let a=" + "(".repeat(9) + "-1+-2" + ")".repeat(9) + "+(1)+-2;");
         fine("if 1{}".repeat(12) + "let a=(1);");
+        fine("let a=" + "min(1,2)+max(1,2)+".repeat(12) + "1;");
+        fine("let a=" + "abs(-1)+not 1+".repeat(12) + "1;");
+        fine("repeat 1{}".repeat(12) + "if 1{}else{}".repeat(12) + "let a=(1);");
         wrong("if 1{".repeat(10) + "let a=" + "(1);" + "}".repeat(10), 56);
         fine("let a=1" + "-1".repeat(20) + ";");
         wrong("if 1{}else{" + "if 1{".repeat(10) + "}".repeat(11), 60);

@@ -9,6 +9,9 @@ final class GroupsTest {
         groupRefused();
         nesting();
         nestingFromWithin();
+        threeDeep();
+        threeDeepGone();
+        inTheRoomOfARemovedShape();
         ungrouped();
         arranged();
         alignedEdges();
@@ -172,6 +175,82 @@ final class GroupsTest {
         check.badState("round a group and a shape", deck, deck::group);
         deck.select(inner, false);
         check.due("beside it is fine", deck.group(), 6);
+    }
+
+    /** Shapes 0 and 1 in group 5, that with 2 in group 6, that with 3 in group 7; 4 stands ahead of them. */
+    private static SlideDeck nested() {
+        SlideDeck deck = new SlideDeck();
+        for (int i = 0; i < 4; i++) {
+            deck.add(0, 0, 10 * i, 20 * i, 5, 6);
+        }
+        deck.add(0, 0, 200, 200, 1, 1);
+        deck.arrange(4, 0);
+        Decks.group(deck, 0, 1);
+        Decks.group(deck, 5, 2);
+        Decks.group(deck, 6, 3);
+        return deck;
+    }
+
+    private static void threeDeep() {
+        SlideDeck deck = nested();
+        check.due("the box of all", Decks.box(deck, 0, 7), "0 0 35 66");
+        deck.set(0, 0, 0, -50);
+        check.due("the box with the innermost one", Decks.box(deck, 0, 7), "-50 0 85 66");
+        check.due("painted", Decks.painted(deck, 0), "4 0 1 2 3");
+        deck.arrange(7, 0);
+        check.due("all moved", Decks.painted(deck, 0), "0 1 2 3 4");
+        deck.set(0, 7, 6, 1);
+        check.due("all hidden", Decks.painted(deck, 0), "4");
+        deck.set(0, 7, 6, 4);
+        check.due("the innermost one is locked", deck.shape(0, 5), 1);
+        check.badState("it is not set", deck, () -> deck.set(0, 0, 0, 1));
+        deck.set(0, 7, 6, 0);
+        Decks.select(deck, 4, 7);
+        check.due("only the groups move", deck.align(0), 1);
+        check.due("the other one", deck.value(0, 4, 0), -50);
+        deck.undo();
+        Decks.select(deck, 4, 7);
+        check.due("all right edges", deck.align(1), 1);
+        check.due("the innermost one moves as well", deck.value(0, 0, 0), 116);
+        Decks.select(deck, 0);
+        check.badState("a member of a selected group by way of two others", deck, () -> deck.align(0));
+        deck.select(0, false);
+        deck.set(0, 1, 6, 4);
+        check.badState("a locked one three groups within", deck, () -> deck.align(0));
+        check.badState("nor removed", deck, () -> deck.remove(7));
+    }
+
+    private static void threeDeepGone() {
+        SlideDeck deck = nested();
+        check.due("all of it", deck.remove(7), 7);
+        check.due("one is left", Decks.painted(deck, 0), "4");
+        deck.undo();
+        check.due("a member", deck.remove(3), 1);
+        check.due("another one", deck.remove(2), 1);
+        check.due("and another one", deck.remove(1), 1);
+        check.due("the last one, with three groups", deck.remove(0), 4);
+        check.due("one shape is left", deck.count(2), 1);
+    }
+
+    private static void inTheRoomOfARemovedShape() {
+        SlideDeck deck = new SlideDeck();
+        int slide = deck.addSlide(0, 0);
+        for (int i = 0; i < 4; i++) {
+            deck.add(slide, 0, 10 * i, 20 * i, 5, 6);
+        }
+        deck.remove(0);
+        check.due("a new number", Decks.group(deck, 1, 2), 4);
+        check.due("a group in a group", Decks.group(deck, 4, 3), 5);
+        check.due("the first one has a place in it", Decks.told(deck, 4), "3 1 5 0 2 0");
+        deck.select(1, true);
+        check.due("a third one", deck.group(), 6);
+        check.badState("but no fourth one", deck, deck::group);
+        check.due("a copy", deck.duplicate(slide), 2);
+        check.due("with the same groups", Decks.told(deck, 8), "3 2 7 0 2 0");
+        check.due("and members", Decks.told(deck, 11), "0 2 8 1 0 0");
+        check.due("the last member but one", deck.remove(2), 1);
+        check.due("the last one, with two groups", deck.remove(1), 3);
+        check.due("the outer group is left", Decks.told(deck, 5), "3 1 -1 0 1 0");
     }
 
     private static void ungrouped() {

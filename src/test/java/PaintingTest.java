@@ -153,6 +153,9 @@ final class PaintingTest {
         check.due("put together as they fit", lines(deck, "aaa bbb ccc ddd eee fff"), 3);
         check.due("nine bytes and one letter", lines(deck, "aaaaaaaaa b"), 2);
         check.due("eight bytes and one letter", lines(deck, "aaaaaaaa b"), 1);
+        check.due("three words in a line", lines(deck, "aaa bbb cc"), 1);
+        check.due("not quite", lines(deck, "aaa bbb ccc"), 2);
+        check.due("five", lines(deck, "a b c d ef"), 1);
         int box = Decks.box(deck, 0);
         check.due("no TEXT", deck.lines(0, box), 0);
     }

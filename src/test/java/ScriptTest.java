@@ -20,6 +20,8 @@ final class ScriptTest {
         frontAndBack();
         loops();
         branches();
+        notDone();
+        letters();
         zeroDivision();
         noShapeAtHand();
         ranges();
@@ -292,6 +294,11 @@ final class ScriptTest {
         deck.add(0, 2, 8, 9, 1, 1);
         does(deck, "pick px<10;let a=px+rank;pick 1;box a,px,many,1;", 4);
         check.due("of the first picked", Decks.box(deck, 0, 3), "3 3 3 1");
+        does(deck, "pick 1;set pc=rank;let a=px*100+rank;box a,pc,1,1;", 4);
+        check.due("of the first picked behind set", Decks.box(deck, 0, 4), "300 0 1 1");
+        does(deck, "drop;pick 1;shift 0,rank;let a=px*100+rank;box a,pc,1,1;", 5);
+        check.due("and behind shift", Decks.box(deck, 0, 5), "300 0 1 1");
+        deck.go(3);
         does(deck, "let a=9;", 1);
         does(deck, "box a,many,1,1;", 1);
         check.due("variables are 0 at first", Decks.box(deck, 0, 4), "0 0 1 1");
@@ -411,6 +418,40 @@ final class ScriptTest {
         check.due("nothing", left("if 0{let a=5;}box a,0,1,1;", 2), 0);
         check.due("in one another", left("if 1{if 0{let a=1;}else{let a=2;}let b=4;}else{let a=8;}box a+b,0,1,1;", 5), 6);
         check.due("a loop behind it", left("let a=3;if a>2{let a=1;}if a>2{let a=9;}repeat 2{let a=a*2;}box a,0,1,1;", 10), 4);
+    }
+
+    /** Each statement in a branch that is not taken, and in a loop without a round. */
+    private static void notDone() {
+        String[] statements = {"let a=9;", "sheet 1;", "sheet 9;", "pick 0;", "set px=9;", "set px=1/0;", "shift 9,9;",
+            "box 9,9,9,9;", "text 9,9,0,9;", "line 9,9,9,9;", "copy;", "drop;", "front;", "back;", "repeat 3{drop;}",
+            "if 1{drop;}else{copy;}", "pick 1/0;", "shift 1/0,pm;", "let a=1%0;"};
+        for (String statement : statements) {
+            notDone("if 0{" + statement + "}", 3);
+            notDone("if 1{}else{" + statement + "}", 3);
+            notDone("repeat 0{" + statement + "}", 3);
+            notDone("repeat -1{if 1{" + statement + "}}", 3);
+        }
+    }
+
+    private static void notDone(String script, int steps) {
+        SlideDeck deck = new SlideDeck();
+        deck.addSlide(0, 0);
+        deck.add(0, 1, 3, 4, 5, 6);
+        deck.add(0, 0, 1, 1, 1, 1);
+        does(deck, "pick px=3;" + script + "box a,many,1+here,px;", steps);
+        check.due("order behind " + script, Decks.painted(deck, 0), "0 1 2");
+        check.due("the shape behind " + script, Decks.box(deck, 0, 0), "3 4 5 6");
+        check.due("what was put behind " + script, Decks.box(deck, 0, 2), "0 1 1 3");
+    }
+
+    /** Every letter is a variable of its own. */
+    private static void letters() {
+        for (char letter = 'a'; letter <= 'z'; letter++) {
+            char other = letter == 'z' ? 'a' : (char) (letter + 1);
+            SlideDeck deck = new SlideDeck();
+            does(deck, "let " + letter + "=5;let " + other + "=" + letter + "+1;box " + letter + "," + other + ",1,1;", 3);
+            check.due("the variable " + letter, Decks.box(deck, 0, 0), "5 6 1 1");
+        }
     }
 
     private static void zeroDivision() {

@@ -12,6 +12,8 @@ final class SheetsTest {
         removedSlides();
         movedSlides();
         newBases();
+        singleOverrides();
+        lockedFirst();
         basesRefused();
         basesAndCounts();
         shades();
@@ -125,6 +127,10 @@ final class SheetsTest {
         check.badState("50 more are too many", deck, () -> deck.duplicate(slide));
         deck.remove(0);
         check.badState("49 and 99 too", deck, () -> deck.duplicate(slide));
+        Decks.box(deck, 0);
+        deck.remove(50);
+        deck.remove(51);
+        check.badState("49 and 98 too", deck, () -> deck.duplicate(2));
         int empty = deck.addSlide(0, 0);
         check.due("none are not too many", deck.duplicate(empty), 4);
     }
@@ -208,6 +214,35 @@ final class SheetsTest {
         deck.undo();
         deck.undo();
         check.due("taken back", deck.overrides(slide), 3);
+    }
+
+    private static void singleOverrides() {
+        SlideDeck deck = new SlideDeck();
+        int one = deck.addMaster(0);
+        int two = deck.addMaster(0);
+        int slide = deck.addSlide(one, 0);
+        int first = deck.add(one, 0, 1, 1, 1, 1);
+        int second = deck.add(0, 0, 1, 1, 1, 1);
+        deck.set(slide, first, 6, 4);
+        check.due("the only one goes", deck.setBase(slide, two), 1);
+        check.due("none is left", deck.overrides(slide), 0);
+        deck.set(slide, second, 6, 4);
+        check.due("the only one stays", deck.setBase(slide, one), 0);
+        check.due("it is there yet", deck.value(slide, second, 6), 4);
+    }
+
+    private static void lockedFirst() {
+        SlideDeck deck = new SlideDeck();
+        int slide = deck.addSlide(0, 0);
+        int a = Decks.box(deck, slide);
+        Decks.box(deck, slide);
+        deck.set(slide, a, 6, 4);
+        check.badState("the lowest shape is locked", deck, () -> deck.removeSlide(slide));
+        deck.arrange(1, 0);
+        check.badState("the highest one is", deck, () -> deck.removeSlide(slide));
+        deck.set(slide, a, 6, 3);
+        check.due("no slides are left", deck.removeSlide(slide), 0);
+        check.due("no shapes either", deck.count(2), 0);
     }
 
     private static void basesRefused() {
