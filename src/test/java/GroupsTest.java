@@ -418,6 +418,9 @@ final class GroupsTest {
         int thin = deck.add(0, 0, 0, 0, 100, 10);
         Decks.select(deck, wide, thin);
         check.badState("x would be 2001", deck, () -> deck.align(1));
+        deck.arrange(thin, 0);
+        Decks.select(deck, wide, thin);
+        check.badState("of the lower one too", deck, () -> deck.align(1));
         deck.set(0, thin, 2, 101);
         check.due("2000 is fine", deck.align(1), 1);
         deck.set(0, thin, 2, 1);

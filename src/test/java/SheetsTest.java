@@ -9,6 +9,7 @@ final class SheetsTest {
         mostSlides();
         duplicateCopiesAll();
         duplicateRefused();
+        duplicateJustRefused();
         removedSlides();
         movedSlides();
         newBases();
@@ -127,12 +128,20 @@ final class SheetsTest {
         check.badState("50 more are too many", deck, () -> deck.duplicate(slide));
         deck.remove(0);
         check.badState("49 and 99 too", deck, () -> deck.duplicate(slide));
-        Decks.box(deck, 0);
-        deck.remove(50);
-        deck.remove(51);
-        check.badState("49 and 98 too", deck, () -> deck.duplicate(2));
         int empty = deck.addSlide(0, 0);
         check.due("none are not too many", deck.duplicate(empty), 4);
+    }
+
+    private static void duplicateJustRefused() {
+        SlideDeck deck = new SlideDeck();
+        int slide = deck.addSlide(0, 0);
+        Decks.run(deck, slide, "repeat 50{box 1,1,1,1;}");
+        Decks.box(deck, 0);
+        check.badState("51 and 50", deck, () -> deck.duplicate(slide));
+        deck.arrange(49, 0);
+        check.badState("in another order too", deck, () -> deck.duplicate(slide));
+        deck.remove(7);
+        check.due("50 and 49", deck.duplicate(slide), 2);
     }
 
     private static void removedSlides() {
