@@ -38,6 +38,7 @@ final class GrammarBoundsTest {
         asDeepAgain();
         theFirstError();
         theLastByteOfTheTape();
+        asManyTokensAsThereCanBe();
         bounds.end();
     }
 
@@ -395,5 +396,14 @@ final class GrammarBoundsTest {
         wrong("let a=" + " ".repeat(588) + "123456", 600);
         wrong("let a=" + " ".repeat(587) + "1234567", 593);
         wrong("let a=1" + " ".repeat(592) + "<", 600);
+    }
+
+    /** Tokens of one byte each behind the first word: the error behind, or at, the last of them has its place. */
+    private static void asManyTokensAsThereCanBe() {
+        wrong("if" + "1+".repeat(299), 600);
+        wrong("if" + "1+".repeat(298) + "1{", 600);
+        wrong("if" + "1+".repeat(298) + "1;", 599);
+        wrong("if" + "1+".repeat(298) + "++", 598);
+        fine("if" + "0*".repeat(297) + "1{}" + " ");
     }
 }

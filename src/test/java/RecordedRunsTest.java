@@ -5,7 +5,7 @@ import java.util.List;
 
 /**
  * Runs of calls under src/test/runs, each row a call with the answer that is due. The answers were worked
- * out by a second program, which was written from the document alone.
+ * out by other programs, which were written from the document alone.
  */
 final class RecordedRunsTest {
     private static final Check check = new Check();

@@ -15,6 +15,7 @@ final class SelectionBoundsTest {
         groupAmongAHundredShapes();
         threeGroupsButNotFour();
         threeGroupsFromWithin();
+        groupBesideAGroup();
         whereAGroupStands();
         ungroupGroupsAlone();
         ungroupNoLockedGroup();
@@ -212,6 +213,21 @@ final class SelectionBoundsTest {
         bounds.badState(selecting(grouping(wide, 9, 0), 8, 5), "group");
         bounds.answers(selecting(grouping(wide, 9, 0), 7), "group", "10", "shape 10 2", "8", "shape 7 2", "10");
         bounds.answers(selecting(grouping(wide, 9, 0), 7, 4), "group", "10", "shape 10 4", "2");
+    }
+
+    /** The groups that stand next to the selected shapes, above or below them, do not count. */
+    private static void groupBesideAGroup() {
+        Story inTwo = grouping(grouping(grouping(boxes(3), 3, 0, 1, 2), 4, 3), 5, 1);
+        bounds.answers(inTwo, "shape 5 2", "3", "shape 3 2", "4");
+        bounds.answers(selecting(inTwo, 0), "group", "6", "shape 6 2", "3", "shape 0 2", "6");
+        bounds.answers(selecting(inTwo, 2), "group", "6", "shape 6 2", "3", "shape 2 2", "6");
+        bounds.answers(selecting(inTwo, 0, 2), "group", "6", "shape 6 4", "2", "shape 6 3", "1");
+        bounds.badState(selecting(inTwo, 0, 5), "group");
+        bounds.badState(selecting(inTwo, 5), "group");
+        Story beside = selecting(boxes(3), 1).then("group", "group", "group", "select 5 0");
+        bounds.answers(selecting(beside, 0), "group", "6", "shape 6 3", "0", "shape 5 3", "1");
+        bounds.answers(selecting(beside, 2), "group", "6", "shape 6 3", "2", "shape 5 3", "1");
+        bounds.answers(selecting(beside, 0, 2), "group", "6", "shape 6 3", "1", "shape 5 3", "0");
     }
 
     /** "stands at the place of the highest one of them among those that are not selected". */

@@ -18,6 +18,7 @@ final class SheetBoundsTest {
         duplicateTakesSlidesAlone();
         removeTheLastSlide();
         removeNoLockedShape();
+        removeSlideAmongAHundredShapes();
         anOverrideLocksNothing();
         placesToMoveTo();
         placesOfSlides();
@@ -202,6 +203,17 @@ final class SheetBoundsTest {
         bounds.badState(grouped.then("set 1 1 6 4"), "removeSlide 1");
         bounds.answers(grouped.then("set 1 5 6 4", "set 1 5 6 0"), "removeSlide 1", "1", "count 2", "0");
         bounds.answers(three.then("set 1 0 6 4"), "removeSlide 2", "1", "count 2", "3");
+    }
+
+    /** removeSlide where there are 100 shapes, all of them on the slide, one of them, or none. */
+    private static void removeSlideAmongAHundredShapes() {
+        Story all = slides(2).ran(1, boxes(99)).then("add 1 0 0 0 1 1");
+        bounds.answers(all, "count 2", "100", "removeSlide 1", "1", "count 2", "0");
+        bounds.answers(all, "removeSlide 2", "1", "count 2", "100", "removeSlide 1", "0", "count 2", "0");
+        bounds.badState(all.then("set 1 99 6 4"), "removeSlide 1");
+        Story one = slides(2).then("add 1 0 0 0 1 1").ran(2, boxes(99));
+        bounds.answers(one, "removeSlide 1", "1", "count 2", "99", "removeSlide 2", "0", "count 2", "0");
+        bounds.badState(one.then("set 2 99 6 4"), "removeSlide 2");
     }
 
     /** "A locked shape is one whose own value of marks has 4 in it": those of other homes lock no slide. */
